@@ -17,6 +17,7 @@ public final class PromiseTest {
         promise7();
         promise7Short();
         promise8Refusals();
+        promise8ShortProbes();
         promise8Links();
         promise8NoLinkToItselfOrMirror();
         promise8LongPieces();
@@ -273,6 +274,22 @@ public final class PromiseTest {
         Check.due("8: 222 is not seen", builder.chain(), -1);
         Check.due("9: 222 is not seen", builder.before(), -1);
         Check.due("10: 222 is not seen", builder.step(), -1);
+    }
+
+    /** Each short probe is the end of a solid piece that has only 0 before it: it must not pass as that piece. */
+    private static void promise8ShortProbes() {
+        String[][] cases = {{"3", "000", "", "0", "00"}, {"3", "0010", "1", "01"}, {"5", "001011", "101", "0101"}};
+        for (String[] texts : cases) {
+            for (int at = 2; at < texts.length; at++) {
+                UnitigBuilder builder = Check.withReads(Integer.parseInt(texts[0]), 1, texts[1]);
+                Check.probe(builder, texts[at]);
+                Check.due("7: count of the short probe " + texts[at], builder.count(), -1);
+                Check.due("8: chain of the short probe " + texts[at], builder.chain(), -1);
+                Check.due("9: before the short probe " + texts[at], builder.before(), -1);
+                Check.due("10: step of the short probe " + texts[at], builder.step(), -1);
+                Check.due("14: its length is kept", builder.probe(0), texts[at].length() + 1);
+            }
+        }
     }
 
     private static void promise8Links() {
