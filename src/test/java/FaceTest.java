@@ -23,10 +23,12 @@ public final class FaceTest {
         "Arrays", "Object", "enum", "interface", "record", "protected", "volatile", "native");
 
     public static void main(String[] args) throws IOException {
-        classItself();
-        methods();
-        fields();
-        words();
+        String code = codeWithoutComments();
+        Check.test("The public face, rule 1: one public final class with one constructor", FaceTest::classItself);
+        Check.test("The public face, rule 1: the methods of the document and no other", FaceTest::methods);
+        Check.test("Rules 1, 2 and 5: private fields of allowed types, at most forty", FaceTest::fields);
+        Check.test("Rules 2, 3 and 6: no word that is ruled out", () -> words(code));
+        Check.test("Rules 4 and 5: arrays are made with the fields", () -> arrays(code));
         Check.finish();
     }
 
@@ -81,13 +83,19 @@ public final class FaceTest {
         Check.holds("forty fields at most", kept <= 40);
     }
 
-    private static void words() throws IOException {
+    private static String codeWithoutComments() throws IOException {
         String text = Files.readString(Path.of("src/main/java/UnitigBuilder.java"));
-        String code = text.replaceAll("(?s)/\\*.*?\\*/", " ").replaceAll("//[^\n]*", " ");
+        return text.replaceAll("(?s)/\\*.*?\\*/", " ").replaceAll("//[^\n]*", " ");
+    }
+
+    private static void words(String code) {
         for (String word : BANNED) {
             Check.holds("no " + word, !Pattern.compile("\\b" + word + "\\b").matcher(code).find());
         }
         Check.holds("no lambda or method reference", !code.contains("->") && !code.contains("::"));
+    }
+
+    private static void arrays(String code) {
         Check.holds("no static initialiser", !Pattern.compile("\\bstatic\\s*\\{").matcher(code).find());
         Pattern fieldArray = Pattern.compile("private final \\w+\\[\\] \\w+ = new \\w+\\[\\w+\\];");
         String withoutFields = fieldArray.matcher(code).replaceAll(" ");

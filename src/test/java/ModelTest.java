@@ -5,6 +5,7 @@ import java.util.Random;
 public final class ModelTest {
     private static final int RUNS = 300;
     private static final int CALLS = 512;
+    private static final int MOST_LETTERS_OF_A_PIECE = 5;
     private static int ringsSeen = 0;
     private static int longestSeen = 0;
 
@@ -31,15 +32,23 @@ public final class ModelTest {
     }
 
     public static void main(String[] args) {
+        Check.test("Promises 1 to 14, runs of 512 calls against the plain model", ModelTest::compareRuns);
+        Check.test("The runs had rings and long chains", ModelTest::runsWereWideEnough);
+        Check.finish();
+    }
+
+    private static void compareRuns() {
         for (int run = 0; run < RUNS; run++) {
             ModelTest test = new ModelTest(run);
             while (test.call < CALLS) {
                 test.makeCall();
             }
         }
-        Check.holds("the runs had rings", ringsSeen > 100);
-        Check.holds("the runs had long chains", longestSeen > 15);
-        Check.finish();
+    }
+
+    private static void runsWereWideEnough() {
+        Check.holds("rings", ringsSeen > 100);
+        Check.holds("long chains", longestSeen > 15);
     }
 
     private void makeCall() {
@@ -93,7 +102,8 @@ public final class ModelTest {
 
     private void probeSolidPiece() {
         List<String> solid = model.solidInOrder();
-        if (!solid.isEmpty()) {
+        // Past call 512 the answers are free, so a piece must still fit in.
+        if (!solid.isEmpty() && call + MOST_LETTERS_OF_A_PIECE <= CALLS) {
             for (char letter : solid.get(random.nextInt(solid.size())).toCharArray()) {
                 probe(letter - '0' + 4 * random.nextInt(3));
             }

@@ -48,7 +48,7 @@ final class PlainModel {
     }
 
     void turn() {
-        probe = mirror(probe);
+        probe = Rows.mirror(probe);
     }
 
     int count() {
@@ -90,7 +90,7 @@ final class PlainModel {
     int solid() {
         Set<Set<String>> pairs = new HashSet<>();
         for (String piece : solidPieces()) {
-            pairs.add(Set.of(piece, mirror(piece)));
+            pairs.add(Set.of(piece, Rows.mirror(piece)));
         }
         return pairs.size();
     }
@@ -125,18 +125,10 @@ final class PlainModel {
         return found;
     }
 
-    private static String mirror(String row) {
-        StringBuilder partners = new StringBuilder();
-        for (char letter : row.toCharArray()) {
-            partners.append(3 - (letter - '0'));
-        }
-        return partners.reverse().toString();
-    }
-
     private static Set<String> mirrors(Set<String> chain) {
         Set<String> found = new HashSet<>();
         for (String piece : chain) {
-            found.add(mirror(piece));
+            found.add(Rows.mirror(piece));
         }
         return found;
     }
@@ -147,7 +139,7 @@ final class PlainModel {
             for (int start = 0; start + k <= read.length(); start++) {
                 String piece = read.substring(start, start + k);
                 counts.merge(piece, 1, Integer::sum);
-                counts.merge(mirror(piece), 1, Integer::sum);
+                counts.merge(Rows.mirror(piece), 1, Integer::sum);
             }
         }
         return counts;
@@ -174,7 +166,7 @@ final class PlainModel {
             followers += follows(piece, x) ? 1 : 0;
             leaders += follows(y, piece) ? 1 : 0;
         }
-        return follows(y, x) && followers == 1 && leaders == 1 && !y.equals(x) && !y.equals(mirror(x));
+        return follows(y, x) && followers == 1 && leaders == 1 && !y.equals(x) && !y.equals(Rows.mirror(x));
     }
 
     private static String linkedAfter(String x, Set<String> solid) {
