@@ -1,7 +1,7 @@
 import java.util.ArrayList;
 import java.util.List;
 import java.util.Random;
-import java.util.function.Consumer;
+import java.util.function.BiConsumer;
 import java.util.function.Supplier;
 import java.util.function.ToIntFunction;
 
@@ -13,6 +13,9 @@ import java.util.function.ToIntFunction;
 public final class RefusalBoundaryTest {
     private static final int REPEATED = 3;
     private static final int ROUTE_PART = 64;
+    private static final String ROW = "0113020031";
+    private static final String RING = "00100100";
+    private static final String OPEN = "2100";
 
     public static void main(String[] args) {
         Check.test("Promise 14, read refused at 96 letters, in an open and in a new read, changes nothing",
@@ -45,7 +48,7 @@ public final class RefusalBoundaryTest {
         for (int k : Check.SIZES) {
             for (boolean ended : new boolean[] {false, true}) {
                 Supplier<UnitigBuilder> make = () -> {
-                    UnitigBuilder builder = new UnitigBuilder(k, 1);
+                    UnitigBuilder builder = new UnitigBuilder(k, 2);
                     Check.read(builder, "0011302".repeat(13) + "01010");
                     if (ended) {
                         builder.endRead();
@@ -54,7 +57,7 @@ public final class RefusalBoundaryTest {
                     return builder;
                 };
                 for (int letter : new int[] {0, 1, 2, 3, -1, Integer.MAX_VALUE}) {
-                    dueUnchanged(k, make, builder -> builder.read(letter), -1);
+                    dueUnchanged(k, make, "0011302".substring(k), builder -> builder.read(letter), -1);
                 }
             }
         }
@@ -63,27 +66,31 @@ public final class RefusalBoundaryTest {
     private static void promise14ShortProbe(ToIntFunction<UnitigBuilder> call) {
         for (int k : Check.SIZES) {
             for (int letters = 0; letters < k; letters++) {
-                String probe = "01130".substring(0, letters);
-                dueUnchanged(k, () -> withOpenRead(k, 1, probe), call, -1);
+                String probe = ROW.substring(0, letters);
+                dueUnchanged(k, () -> withOpenRead(k, 2, probe), ROW.substring(letters), call, -1);
             }
         }
     }
 
     private static void promise14NotSolid(ToIntFunction<UnitigBuilder> call) {
         for (int k : Check.SIZES) {
-            dueUnchanged(k, () -> withOpenRead(k, 1, "33333".substring(0, k)), call, -1);
-            dueUnchanged(k, () -> withOpenRead(k, 5, "01130".substring(0, k)), call, -1);
+            String neverSeen = "3" + ROW.substring(0, k - 1);
+            dueUnchanged(k, () -> withOpenRead(k, 2, neverSeen), ROW.substring(k - 1), call, -1);
+            String seenTooSeldom = ROW.substring(0, k);
+            dueUnchanged(k, () -> withOpenRead(k, 5, seenTooSeldom), ROW.substring(k), call, -1);
         }
     }
 
     private static void promise14BeforeInARing() {
-        dueUnchanged(3, () -> withRing(3), UnitigBuilder::before, -2);
-        dueUnchanged(5, () -> withRing(5), UnitigBuilder::before, -2);
+        for (int k : Check.SIZES) {
+            dueUnchanged(k, () -> withRing(k), RING.substring(k), UnitigBuilder::before, -2);
+        }
     }
 
     private static void promise14StepAtTheEnd() {
         for (int k : Check.SIZES) {
-            dueUnchanged(k, () -> withOpenRead(k, 1, "20031".substring(5 - k)), UnitigBuilder::step, -1);
+            String last = ROW.substring(ROW.length() - k);
+            dueUnchanged(k, () -> withOpenRead(k, 1, last), "0", UnitigBuilder::step, -1);
         }
     }
 
@@ -92,67 +99,76 @@ public final class RefusalBoundaryTest {
             UnitigBuilder::before, UnitigBuilder::solid, UnitigBuilder::chains, UnitigBuilder::longest);
         for (int k : Check.SIZES) {
             for (ToIntFunction<UnitigBuilder> question : questions) {
-                Supplier<UnitigBuilder> row = () -> withOpenRead(k, 1, "01130".substring(0, k));
-                dueUnchanged(k, row, question, question.applyAsInt(row.get()));
+                Supplier<UnitigBuilder> row = () -> withOpenRead(k, 2, ROW.substring(0, k));
+                dueUnchanged(k, row, ROW.substring(k), question, question.applyAsInt(row.get()));
                 Supplier<UnitigBuilder> ring = () -> withRing(k);
-                dueUnchanged(k, ring, question, question.applyAsInt(ring.get()));
+                dueUnchanged(k, ring, RING.substring(k), question, question.applyAsInt(ring.get()));
             }
         }
     }
 
-    /** The last read is left open, one letter before a piece that no other read has. */
+    /** Two pieces follow the end of the row; the last read is left open, a letter short of a new piece. */
     private static UnitigBuilder withOpenRead(int k, int floor, String probe) {
-        UnitigBuilder builder = Check.withReads(k, floor, "0113020031", "0113020031", "1011", "220220");
-        Check.read(builder, "2100".substring(5 - k));
+        UnitigBuilder builder = Check.withReads(k, floor, ROW, ROW, "1011", "220220", "00310", "00312");
+        Check.read(builder, OPEN.substring(5 - k));
         Check.probe(builder, probe);
         return builder;
     }
 
     private static UnitigBuilder withRing(int k) {
-        UnitigBuilder builder = Check.withReads(k, 1, "00100100");
-        Check.read(builder, "2100".substring(5 - k));
-        Check.probe(builder, "00100".substring(0, k));
+        UnitigBuilder builder = Check.withReads(k, 1, RING);
+        Check.read(builder, OPEN.substring(5 - k));
+        Check.probe(builder, RING.substring(0, k));
         return builder;
     }
 
-    private static void dueUnchanged(int k, Supplier<UnitigBuilder> make, ToIntFunction<UnitigBuilder> call, int due) {
-        Consumer<UnitigBuilder> calls = builder -> {
-            for (int time = 0; time < REPEATED; time++) {
-                Check.due("the call", call.applyAsInt(builder), due);
-            }
-        };
+    /** The further letters are those that stand after the probe in a read, so that its own letters are seen. */
+    private static void dueUnchanged(int k, Supplier<UnitigBuilder> make, String further,
+            ToIntFunction<UnitigBuilder> call, int due) {
         String route = Rows.everyPiece(k);
         for (int from = 0; from < route.length(); from += ROUTE_PART) {
             String part = route.substring(from, Math.min(route.length(), from + ROUTE_PART + k - 1));
-            UnitigBuilder called = make.get();
-            calls.accept(called);
-            List<Integer> seen = look(called, part);
-            List<Integer> twin = look(make.get(), part);
-            Check.holds("after the calls " + seen + ", without them " + twin, seen.equals(twin));
+            dueAlike(make, call, due, (builder, seen) -> lookAtReads(builder, seen, k, part));
+        }
+        dueAlike(make, call, due, (builder, seen) -> lookAtProbe(builder, seen, k, further));
+        dueAlike(make, call, due, RefusalBoundaryTest::lookAtChain);
+        dueAlike(make, call, due, RefusalBoundaryTest::lookAtWhole);
+    }
+
+    /** Each look has a pair of objects to itself: what one look changes can't hide what the call did. */
+    private static void dueAlike(Supplier<UnitigBuilder> make, ToIntFunction<UnitigBuilder> call, int due,
+            BiConsumer<UnitigBuilder, List<Integer>> look) {
+        UnitigBuilder called = make.get();
+        for (int time = 0; time < REPEATED; time++) {
+            Check.due("the call", call.applyAsInt(called), due);
+        }
+        List<Integer> seen = new ArrayList<>();
+        look.accept(called, seen);
+        List<Integer> twin = new ArrayList<>();
+        look.accept(make.get(), twin);
+        Check.holds("after the calls " + seen + ", without them " + twin, seen.equals(twin));
+    }
+
+    private static void lookAtReads(UnitigBuilder builder, List<Integer> seen, int k, String route) {
+        for (char letter : "0302".toCharArray()) {
+            seen.add(builder.read(letter - '0'));
+        }
+        lookAtProbe(builder, seen, k, route);
+    }
+
+    private static void lookAtProbe(UnitigBuilder builder, List<Integer> seen, int k, String letters) {
+        for (char letter : letters.toCharArray()) {
+            int length = builder.probe(letter - '0');
+            seen.add(length == k ? builder.count() : length - k);
         }
     }
 
-    /** All that can be seen of an object: its whole, its probe, its open read, its counts and its floor. */
-    private static List<Integer> look(UnitigBuilder builder, String route) {
-        List<Integer> seen = new ArrayList<>();
-        lookAtWhole(builder, seen);
-        seen.add(builder.count());
-        seen.add(builder.chain());
+    private static void lookAtChain(UnitigBuilder builder, List<Integer> seen) {
         seen.add(builder.before());
-        for (char letter : "0302".toCharArray()) {
-            seen.add(builder.probe(letter - '0'));
-            seen.add(builder.count());
-            seen.add(builder.read(letter - '0'));
-            lookAtWhole(builder, seen);
-        }
-        for (char letter : route.toCharArray()) {
-            builder.probe(letter - '0');
-            seen.add(builder.count());
-            seen.add(builder.chain());
-        }
-        builder.floor(1);
-        lookAtWhole(builder, seen);
-        return seen;
+        seen.add(builder.chain());
+        seen.add(builder.count());
+        seen.add(builder.step());
+        seen.add(builder.before());
     }
 
     private static void lookAtWhole(UnitigBuilder builder, List<Integer> seen) {
