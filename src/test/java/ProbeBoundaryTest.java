@@ -16,26 +16,34 @@ public final class ProbeBoundaryTest {
             ProbeBoundaryTest::promise6NeverSeen);
         Check.test("Promise 7, 0 if it was never seen", ProbeBoundaryTest::promise7NeverSeen);
         Check.test("Promise 7, -1 with 0 to k - 1 letters", ProbeBoundaryTest::promise7ShortProbe);
-        Check.test("Promise 7, -1 only then: a piece that is not solid has its count", ProbeBoundaryTest::promise7NotSolid);
+        Check.test("Promise 7, -1 only then: a piece that is not solid has its count",
+            ProbeBoundaryTest::promise7NotSolid);
         Check.test("Promise 7, the greatest count that 96 letters can give", ProbeBoundaryTest::promise7GreatestCount);
-        Check.test("Promise 8, -1 with too few letters, never seen, below the floor", ProbeBoundaryTest::promise8Refused);
+        Check.test("Promise 8, -1 with too few letters, never seen, below the floor",
+            ProbeBoundaryTest::promise8Refused);
         Check.test("Promise 8, a chain of one piece", ProbeBoundaryTest::promise8OnePiece);
         Check.test("Promise 8, the longest row: 7 pieces of 3 letters, 92 of 5", ProbeBoundaryTest::promise8LongestRow);
-        Check.test("Promise 8, the largest ring: 6 pieces of 3 letters, 92 of 5", ProbeBoundaryTest::promise8LargestRing);
-        Check.test("Promise 9, -1 with too few letters, never seen, below the floor", ProbeBoundaryTest::promise9Refused);
+        Check.test("Promise 8, the largest ring: 6 pieces of 3 letters, 92 of 5",
+            ProbeBoundaryTest::promise8LargestRing);
+        Check.test("Promise 9, -1 with too few letters, never seen, below the floor",
+            ProbeBoundaryTest::promise9Refused);
         Check.test("Promise 9, 0 at the first piece of a chain to all but one at the last",
             ProbeBoundaryTest::promise9FirstToLast);
         Check.test("Promise 9, 0 in a chain of one piece, though it follows itself or its mirror",
             ProbeBoundaryTest::promise9OnePiece);
-        Check.test("Promise 9, -2 at every piece of a ring, the least and the largest", ProbeBoundaryTest::promise9Ring);
-        Check.test("Promise 9, -1 and not -2 if a ring is no longer solid", ProbeBoundaryTest::promise9RingBelowTheFloor);
+        Check.test("Promise 9, -2 at every piece of a ring, the least and the largest",
+            ProbeBoundaryTest::promise9Ring);
+        Check.test("Promise 9, -1 and not -2 if a ring is no longer solid",
+            ProbeBoundaryTest::promise9RingBelowTheFloor);
         Check.test("Promise 10, -1 if the probe has not k letters, nothing is changed",
             ProbeBoundaryTest::promise10ShortProbe);
-        Check.test("Promise 10, -1 if the probe is not solid, nothing is changed", ProbeBoundaryTest::promise10NotSolid);
+        Check.test("Promise 10, -1 if the probe is not solid, nothing is changed",
+            ProbeBoundaryTest::promise10NotSolid);
         Check.test("Promise 10, -1 if it is linked with none after it, nothing is changed",
             ProbeBoundaryTest::promise10NoneAfter);
         Check.test("Promise 10, the last letter 0 is an answer, not a refusal", ProbeBoundaryTest::promise10LetterZero);
-        Check.test("Promise 10, from the first to the last piece of the longest row", ProbeBoundaryTest::promise10LongestRow);
+        Check.test("Promise 10, from the first to the last piece of the longest row",
+            ProbeBoundaryTest::promise10LongestRow);
         Check.test("Promise 10, in a ring it comes round to where it began", ProbeBoundaryTest::promise10Ring);
         Check.finish();
     }

@@ -3,11 +3,13 @@ public final class ReadBoundaryTest {
     public static void main(String[] args) {
         Check.test("Promise 1, size: k is 3 if size is 3 or less, down to the least int",
             ReadBoundaryTest::promise1SizeThreeOrLess);
-        Check.test("Promise 1, size: else k is 5, from 4 up to the greatest int", ReadBoundaryTest::promise1SizeFourOrMore);
+        Check.test("Promise 1, size: else k is 5, from 4 up to the greatest int",
+            ReadBoundaryTest::promise1SizeFourOrMore);
         Check.test("Promise 1, floor: less than 1 becomes 1", ReadBoundaryTest::promise1FloorTooSmall);
         Check.test("Promise 1, floor: 1 to 9 are kept", ReadBoundaryTest::promise1FloorKept);
         Check.test("Promise 1, floor: more than 9 becomes 9", ReadBoundaryTest::promise1FloorTooLarge);
-        Check.test("Promise 1, new object: nothing read, nothing solid, an empty probe", ReadBoundaryTest::promise1Empty);
+        Check.test("Promise 1, new object: nothing read, nothing solid, an empty probe",
+            ReadBoundaryTest::promise1Empty);
         Check.test("Promise 1, new object: it shares nothing with another one", ReadBoundaryTest::promise1Apart);
         Check.test("Promise 2, letter & 3: letters below 0 and above 3", ReadBoundaryTest::promise2LettersOutside);
         Check.test("Promise 2, a new read begins at the start: k - 1 letters are no piece, k are one",
@@ -29,7 +31,8 @@ public final class ReadBoundaryTest {
         Check.test("Promise 4, floor: more than 9 becomes 9", ReadBoundaryTest::promise4TooLarge);
         Check.test("Promise 4, floor: it holds for what was read before, up and down again",
             ReadBoundaryTest::promise4HoldsForOldReads);
-        Check.test("Promise 4, floor: the open read goes on, counts and probe stay", ReadBoundaryTest::promise4KeepsTheRest);
+        Check.test("Promise 4, floor: the open read goes on, counts and probe stay",
+            ReadBoundaryTest::promise4KeepsTheRest);
         Check.finish();
     }
 

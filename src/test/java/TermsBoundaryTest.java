@@ -28,8 +28,10 @@ public final class TermsBoundaryTest {
             TermsBoundaryTest::termsOnlySolidPiecesHinder);
         Check.test("Terms, linked: y is not x", TermsBoundaryTest::termsNotLinkedWithItself);
         Check.test("Terms, linked: y is not the mirror of x", TermsBoundaryTest::termsNotLinkedWithItsMirror);
-        Check.test("Terms, linked: the mirrors are linked the other way round", TermsBoundaryTest::termsMirrorsAreLinked);
-        Check.test("Terms, chain: it never holds a piece and its mirror both", TermsBoundaryTest::termsNeverBothInAChain);
+        Check.test("Terms, linked: the mirrors are linked the other way round",
+            TermsBoundaryTest::termsMirrorsAreLinked);
+        Check.test("Terms, chain: it never holds a piece and its mirror both",
+            TermsBoundaryTest::termsNeverBothInAChain);
         Check.test("Terms, ring: two pieces are the fewest, one that follows itself is none",
             TermsBoundaryTest::termsLeastRing);
         Check.test("Terms, ring: a row that lacks one link is none; the last letter closes it, a branch opens it",

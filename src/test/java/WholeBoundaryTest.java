@@ -18,7 +18,8 @@ public final class WholeBoundaryTest {
         Check.test("Promise 13, 0 if there is none: nothing read, reads too short, all below the floor",
             WholeBoundaryTest::promise13None);
         Check.test("Promise 13, 1 if every chain is of one piece", WholeBoundaryTest::promise13OnePiece);
-        Check.test("Promise 13, the greatest: 7 and 92 in a row, 6 and 92 in a ring", WholeBoundaryTest::promise13Greatest);
+        Check.test("Promise 13, the greatest: 7 and 92 in a row, 6 and 92 in a ring",
+            WholeBoundaryTest::promise13Greatest);
         Check.test("Promise 13, two chains of the same number, a ring beside a longer and a shorter row",
             WholeBoundaryTest::promise13Compared);
         Check.finish();
@@ -113,7 +114,8 @@ public final class WholeBoundaryTest {
         Check.due("6 in a ring", Check.withReads(3, 1, Rows.LARGEST_RING_OF_3).longest(), 6);
         Check.due("92 in a row", Check.withReads(5, 1, Rows.LONGEST_ROW_OF_5).longest(), 92);
         Check.due("92 in a ring", Check.withReads(5, 1, Rows.LARGEST_RING_OF_5).longest(), 92);
-        Check.due("92 in a row, the mirror read", Check.withReads(5, 1, Rows.mirror(Rows.LONGEST_ROW_OF_5)).longest(), 92);
+        Check.due("92 in a row, the mirror read",
+            Check.withReads(5, 1, Rows.mirror(Rows.LONGEST_ROW_OF_5)).longest(), 92);
     }
 
     private static void promise13Compared() {
