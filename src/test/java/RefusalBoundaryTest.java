@@ -187,11 +187,17 @@ public final class RefusalBoundaryTest {
     }
 
     private static void rule7AnyCalls() {
-        for (int run = 0; run < 40; run++) {
-            Random random = new Random(run);
-            UnitigBuilder builder = new UnitigBuilder(wild(random), wild(random));
-            for (int call = 0; call < 2000; call++) {
-                callAny(builder, random);
+        String[] texts = {"", "0".repeat(96), Rows.everyPiece(3), Rows.LONGEST_ROW_OF_3, Rows.LARGEST_RING_OF_3,
+            Rows.LONGEST_ROW_OF_5, Rows.LARGEST_RING_OF_5};
+        for (String text : texts) {
+            for (int run = 0; run < 12; run++) {
+                Random random = new Random(run);
+                UnitigBuilder builder = new UnitigBuilder(wild(random), wild(random));
+                Check.read(builder, text);
+                Check.probe(builder, text);
+                for (int call = 0; call < 1000; call++) {
+                    callAny(builder, random);
+                }
             }
         }
     }
